@@ -55,13 +55,19 @@ public final class WatchDogs {
     }
 
     public int text() {
-        boolean taken = tape.isTaken();
+        tape.begin();
+        // A line has a byte at least, so there are no more lines than bytes.
+        for (int i = 0; i < TAPE_BYTES && tape.hasLine(); i++) {
+            tape.readLine();
+        }
         tape.length = 0;
-        if (!taken) {
+        if (tape.fault != 0) {
             return -10 - tape.faultAt;
         }
         now.copyOf(tape.draft);
-        Arrays.fill(kept, false);
+        for (int k = 0; k < MOST_IMAGES; k++) {
+            kept[k] = false;
+        }
         return tape.lines;
     }
 
@@ -668,25 +674,17 @@ public final class WatchDogs {
             last = from.last;
         }
 
-        /** A text is told from nothing: only rows of what there is are ever looked at, so they may stay. */
+        /** For a draft, that runs no TICKS and sees nothing: all else of it is as at first. */
         void empty() {
             dogs = 0;
             signs = 0;
             jams = 0;
-            seen = 0;
-            place = 0;
-            tick = 0;
-            resets = 0;
-            free = 0;
-            last = NONE;
         }
 
         void addDog(int kind, int limit) {
             if (dogs < MOST_DOGS) {
                 kindOf[dogs] = kind;
                 limitOf[dogs] = limit;
-                countOf[dogs] = 0;
-                barksOf[dogs] = 0;
                 dogs++;
             }
         }
@@ -927,22 +925,20 @@ public final class WatchDogs {
         private int tokenAt;
         private int value;
 
-        /** Whether all of it can be taken; the draft tells all then. */
-        boolean isTaken() {
+        void begin() {
             draft.empty();
             fault = 0;
-            faultAt = 0;
             lines = 0;
             next = 0;
             readToken();
-            // A line has a byte at least.
-            for (int i = 0; i < TAPE_BYTES && fault == 0 && token != END; i++) {
-                readLine();
-            }
-            return fault == 0;
         }
 
-        private void readLine() {
+        boolean hasLine() {
+            return fault == 0 && token != END;
+        }
+
+        /** A line goes into the draft, which tells all once the end is met without a FAULT. */
+        void readLine() {
             if (isName("plain")) {
                 readDog(PLAIN);
             } else if (isName("window")) {
@@ -978,6 +974,7 @@ public final class WatchDogs {
             readToken();
             draft.addSign(takeNumber(0, MOST_BITS));
             for (int i = 1; i <= MOST_SIGNS && fault == 0 && token == NUMBER; i++) {
+                // Asked ahead of its bounds: a 17th is too many, whether it is a SIGN or not.
                 if (i == MOST_SIGNS) {
                     refuse(TOO_MANY);
                 }

@@ -78,7 +78,11 @@ public final class FaceTest {
     private static void nestedClasses() {
         List<Class<?>> all = new ArrayList<>(List.of(WatchDogs.class.getDeclaredClasses()));
         Check.holds("some twelve classes at most", all.size() <= 12);
+        String face = " " + String.join(" ", FACE) + " ";
         for (Class<?> c : all) {
+            for (Method m : c.getDeclaredMethods()) {
+                Check.holds("named unlike the face: " + m, !face.contains(" " + m.getName() + " "));
+            }
             Check.holds("static: " + c, Modifier.isStatic(c.getModifiers()));
             Check.holds("private or package-visible: " + c, (c.getModifiers() & (Modifier.PUBLIC | Modifier.PROTECTED)) == 0);
         }

@@ -99,6 +99,11 @@ public final class PromisesTest {
         x.end(8);
         due("3: text() of what was kept", x.text(), 1);
         due("3: jam(0, 1)", x.jam(0, 1), 2);
+        // What is behind the end is not read: a figure, a letter.
+        Check.tell(x, "jam 5 55");
+        due("3: a NUMBER at the end", Check.tell(x, "jam 5 5"), -17);
+        Check.tell(x, "plainn");
+        due("3: a NAME at the end", Check.tell(x, "plain"), -15);
     }
 
     // Promises 4, 5
@@ -154,6 +159,9 @@ public final class PromisesTest {
         faulty("!", 1, 0);
         faulty("Plain 2;", 1, 0);
         faulty("plain\t2;", 1, 5);
+        for (char c : "`{/:A\n\u0000\u007f".toCharArray()) {
+            faulty("plain 2;" + c, 1, 8);
+        }
         faulty("plain 100;", 1, 6);
         faulty("jam 5 007;", 1, 6);
         faulty("plain", 2, 5);
@@ -164,6 +172,9 @@ public final class PromisesTest {
         faulty("plain 2 3;", 2, 8);
         faulty("plain 2 half 3;", 2, 8);
         faulty("plai 2;", 2, 0);
+        faulty("xlain 2;", 2, 0);
+        faulty("az 2;", 2, 0);
+        faulty("plainz 2;", 2, 0);
         faulty("plains 2;", 2, 0);
         faulty("windo w 2;", 2, 0);
         faulty("plain 2;;", 2, 8);
@@ -263,6 +274,9 @@ public final class PromisesTest {
         due("13: no SIGNS", x.rule(1), 0);
         due("13: ticks(1)", x.ticks(1), 0);
         due("13: PLACE is 0", x.rule(5), 0);
+        x = Check.told("plain 2;signs 1;");
+        x.cut(0);
+        due("13: a SIGN that was cut feeds nobody", x.when(), 2);
     }
 
     // Promises 14, 15
@@ -481,6 +495,9 @@ public final class PromisesTest {
         // Fed at COUNT 0: a window bites at once, the others never.
         x = Check.told("window 9;signs 1;");
         row("23: of several the first", new int[] {x.kind(0, 50, 0), x.kind(0, 50, 1)}, 0, 0);
+        // Half bites in TICK 7, so that it is FED once more ahead of the JAM; twice bites in TICKS 8, 14, plain in 5, 11.
+        x = Check.told("plain 2;signs 0 0 1 0 0 0 0;jam 11 12;");
+        row("23: half is best", new int[] {x.kind(0, 15, 0), x.kind(0, 15, 1)}, 3, 1);
         // One DOG that bites each TICK: no kind of the other one helps, the first is told.
         x = Check.told("twice 9;window 9;signs 2;");
         row("23: no fewer", new int[] {x.kind(0, 7, 0), x.kind(0, 7, 1)}, 0, 7);
@@ -505,6 +522,11 @@ public final class PromisesTest {
         // Fewer, but not none: five 0s can not be fed by one 1.
         x = Check.told("plain 1;signs 0 0 0 0 0 1;");
         row("24: fewer", new int[] {x.swap(5, 0), x.swap(5, 1)}, 5, 1);
+        x = Check.told("plain 1;signs 1 1 1 1 1 1 1 1 1 1 1 1 1 0 0 1;");
+        row("24: sixteen SIGNS", new int[] {x.swap(16, 0), x.swap(16, 1)}, 13, 0);
+        // The last two alone: a second DOG that holds all others where they are.
+        x = Check.told("plain 1;window 2;signs 1 2 1 2 1 2 1 2 1 2 1 2 1 2 2 1;");
+        row("24: the last two", new int[] {x.swap(16, 0), x.swap(16, 1)}, 1415, 0);
         // PLACE stays: from the SIGN at 3 on.
         x = Check.told("plain 2;signs 1 1 0 0 0;");
         x.ticks(3);
@@ -623,6 +645,15 @@ public final class PromisesTest {
         x.ticks(1);
         due("31: limits(0) a TICK later", x.limits(0) >> 20 & 1, 0);
         due("28: SEEN stays", x.count(0), 1);
+        x = Check.told("plain 1;plain 1;plain 1;plain 1;");
+        x.see(0, 1);
+        due("31: in TICK 0 there is none", x.limits(0), 0);
+        x.ticks(1);
+        due("31: in TICK 0 there is one", x.limits(0), 2097150);
+        for (int i = 1; i < 6; i++) {
+            x.see(i, i % 2 == 0 ? 1 : 0);
+        }
+        due("30: six SEEN", x.kinds(3), 15);
     }
 
     // Promise 32
@@ -645,6 +676,15 @@ public final class PromisesTest {
         row("32: one is left", new int[] {x.ask(0, 0), x.ask(0, 1)}, NONE, NONE);
         x.see(1, 0);
         row("32: none is left", new int[] {x.ask(0, 0), x.ask(0, 1)}, NONE, NONE);
+        // COUNT 9: in this TICK the LIMITS 1 to 9 bite, the other eleven do not.
+        x = Check.told("plain 20;");
+        x.ticks(9);
+        row("32: in this TICK", new int[] {x.ask(0, 0), x.ask(0, 1)}, 0, 11);
+        // STUCK from TICK 39 on: up to TICK 40 only LIMIT 1 bites.
+        x = Check.told("plain 5;signs 1;jam 39 40;");
+        row("32: in TICK 40", new int[] {x.ask(0, 0), x.ask(0, 1)}, 40, 19);
+        x.see(40, 0);
+        due("32: none told apart", x.ask(0, 0), NONE);
         x = Check.told("plain 2;signs 1;");
         row("32: it never bites", new int[] {x.ask(0, 0), x.ask(0, 1)}, NONE, NONE);
     }
@@ -732,6 +772,13 @@ public final class PromisesTest {
         due("35: back(1)", x.back(1), 28);
         row("35: as kept", new int[] {x.sign(0), x.sign(3), x.jam(0, 0), x.dog(0, 1), x.dog(1, 0), x.count(0)}, 9, 9, 50, 20, 3, 1);
         due("35: IMAGES stay", x.count(1), 2);
+        x = Check.told("plain 2;");
+        x.see(2, 1);
+        x.keep(0);
+        x.forget(0);
+        x.see(3, 0);
+        x.back(0);
+        due("35: SEEN as they were", x.limits(0), 1 << 2);
     }
 
     // Promises 36, 37
@@ -843,6 +890,7 @@ public final class PromisesTest {
         row("40: wrong", new int[] {x.count(-1), x.count(6), x.count(MIN), x.count(MAX)}, BAD, BAD, BAD, BAD);
         x.cut(1);
         x.sheet(1, 0, 9);
+        due("40: LIMITS of four DOGS", Check.told("plain 20;half 20;twice 20;window 1;").count(4), 61);
         row("40: SHEET 0 alone, SIGNS that are", new int[] {x.count(3), x.count(5)}, 5, 15);
     }
 }
