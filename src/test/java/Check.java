@@ -18,11 +18,15 @@ final class Check {
         due(claim, is ? 1 : 0, 1);
     }
 
-    /** The text comes on THE TAPE and is read: what text() answers. */
-    static int tell(WatchDogs x, String text) {
+    static void feed(WatchDogs x, String text) {
         for (int i = 0; i < text.length(); i++) {
             x.feed(text.charAt(i));
         }
+    }
+
+    /** The text comes on THE TAPE and is read: what text() answers. */
+    static int tell(WatchDogs x, String text) {
+        feed(x, text);
         return x.text();
     }
 
