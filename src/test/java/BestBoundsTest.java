@@ -116,6 +116,9 @@ public final class BestBoundsTest {
         // A window BITES if it is FED at once: of the three others the first.
         WatchDogs fed = Check.told("window 9;signs 1;");
         both("23: fed at once", fed.kind(0, 200, 0), fed.kind(0, 200, 1), 0, 0);
+        // Half BITES in TICK 7, so that it is FED once more ahead of the JAM; twice BITES in 8 and 14, plain in 5 and 11.
+        WatchDogs half = Check.told("plain 2;signs 0 0 1 0 0 0 0;jam 11 12;");
+        both("23: the last KIND", half.kind(0, 15, 0), half.kind(0, 15, 1), 3, 1);
         // RESETS of all DOGS are counted: no KIND of the other helps, the first is told.
         WatchDogs two = Check.told("half 20;window 2;signs 2;");
         both("23: another BITES each TICK", two.kind(0, 200, 0), two.kind(0, 200, 1), 0, 200);

@@ -172,6 +172,12 @@ public final class ChangeBoundsTest {
         y.add(1);
         y.ticks(1);
         due("13: a SIGN that comes then is done", y.dog(0, 2), 0);
+        // A SIGN that is gone feeds nobody, though it was at PLACE.
+        WatchDogs z = Check.told("plain 20;signs 1;");
+        z.cut(0);
+        z.ticks(3);
+        due("13: no SIGNS, nobody is FED", z.dog(0, 2), 3);
+        due("18: no SIGNS, nobody is FED", z.runs(200, 3), 0);
     }
 
     // ---- promise 14

@@ -131,6 +131,8 @@ public final class TextBoundsTest {
         for (int d = 0; d < 4; d++) {
             due("4: KIND of " + d, x.dog(d, 0), d);
             due("4: LIMIT of " + d, x.dog(d, 1), d + 1);
+            due("4: COUNT of " + d + " is 0 at first", x.dog(d, 2), 0);
+            due("4: BARKS of " + d + " is 0 at first", x.dog(d, 3), 0);
             due("4: JAM " + d, 100 * x.jam(d, 0) + x.jam(d, 1), 101 * d + 1);
         }
     }
@@ -254,6 +256,16 @@ public final class TextBoundsTest {
             faulty(name + " 5 5;", 2, at + 3);
             faulty(name + " 5 " + name, 2, at + 3);
             good(name + " 5;", 1);
+        }
+        // A NAME is known by all its letters: another first one, another last one, one less, one more.
+        for (String name : new String[] {"plain", "window", "twice", "half", "signs", "jam"}) {
+            int last = name.length() - 1;
+            faulty("x" + name.substring(1) + " 5 5;", 2, 0);
+            faulty(name.substring(0, last) + "x 5 5;", 2, 0);
+            faulty(name.substring(0, last) + " 5 5;", 2, 0);
+            faulty(name.substring(1) + " 5 5;", 2, 0);
+            faulty(name + name.charAt(last) + " 5 5;", 2, 0);
+            faulty(name.charAt(0) + name + " 5 5;", 2, 0);
         }
         faulty("signs", 2, 5);
         faulty("signs;", 2, 5);
