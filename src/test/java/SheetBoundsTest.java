@@ -12,6 +12,7 @@ public final class SheetBoundsTest {
         keep();
         back();
         backIsWhole();
+        backIsFull();
         sheetBounds();
         sheetIsNew();
         layBounds();
@@ -137,6 +138,38 @@ public final class SheetBoundsTest {
         due("35: no SIGNS", y.rule(1), 0);
         due("35: no JAMS", y.rule(2), 0);
         due("35: nothing SEEN", y.count(0), 0);
+    }
+
+    /** As much as there can be comes back, to the last of each. */
+    private static void backIsFull() {
+        Twin.Made before = x -> {
+            Check.tell(x, "plain 17;window 18;twice 19;half 20;signs 15 14 13 12 11 10 9 8 7 6 5 4 3 2 1 0;"
+                + "jam 1 2;jam 3 4;jam 5 6;jam 7 8;");
+            x.ticks(20);
+            for (int i = 0; i < 6; i++) {
+                x.see(35 + i, 0);
+            }
+            x.keep(1);
+        };
+        Twin.Made there = x -> {
+            before.by(x);
+            x.cut(0);
+            x.clear(0);
+            x.forget(0);
+            for (int i = 0; i < 16; i++) {
+                x.add(1);
+                x.stick(90, 9);
+                x.see(9, 1);
+            }
+            for (int d = 0; d < 4; d++) {
+                x.alter(d, 0, 2);
+                x.alter(d, 1, 3);
+            }
+            x.ticks(50);
+            x.back(1);
+        };
+        Twin.alike("35: as much as there can be", there, before);
+        due("35: TICK", Twin.of(there).rule(3), 20);
     }
 
     // ---- promise 36
