@@ -26,6 +26,10 @@ public final class FaceTest {
         "throw", "throws", "try", "catch", "finally", "synchronized", "assert", "var", "native", "import static",
     };
 
+    private static final String LIBRARY = "Arrays\\.(copyOf|copyOfRange|fill)|System\\.arraycopy|List\\.of"
+        + "|Math\\.(max|min|abs|floorDiv|floorMod)|(Integer|Long)\\.(compare|max|min|bitCount)";
+    private static final int LONGEST_METHOD = 60;
+
     public static void main(String[] args) throws Exception {
         constants();
         members();
@@ -109,6 +113,11 @@ public final class FaceTest {
         Check.holds("no lambda", !code.contains("->"));
         Check.holds("no method reference", !code.contains("::"));
         Check.holds("no package line", !code.contains("package "));
+        Matcher library = Pattern.compile("\\b(Arrays|System|Math|Integer|Long|List|String)\\.(\\w+)").matcher(code);
+        while (library.find()) {
+            Check.holds("allowed: " + library.group(), library.group().matches(LIBRARY));
+        }
+        shortMethods(code);
         Matcher imports = Pattern.compile("import ([^;]*);").matcher(code);
         while (imports.find()) {
             Check.holds("allowed: " + imports.group(1), imports.group(1).matches("java\\.util\\.(Arrays|ArrayList|List)"));
@@ -118,5 +127,23 @@ public final class FaceTest {
                 Check.holds("plain signs alone, at " + i, false);
             }
         }
+    }
+
+    /** A method begins with a head at the depth of a member and ends with the brace at that depth. */
+    private static void shortMethods(String code) {
+        String[] lines = code.split("\n", -1);
+        int methods = 0;
+        for (int i = 0; i < lines.length; i++) {
+            Matcher head = Pattern.compile("( {4}| {8})(\\w[\\w\\[\\] ]*)\\(.*\\) \\{").matcher(lines[i]);
+            if (head.matches() && !head.group(2).matches("(if|for|while|switch) ?")) {
+                int end = i;
+                while (end < lines.length && !lines[end].equals(head.group(1) + "}")) {
+                    end++;
+                }
+                methods++;
+                Check.holds("short: " + lines[i].trim(), end - i <= LONGEST_METHOD);
+            }
+        }
+        Check.holds("methods found: " + methods, methods >= FACE.length);
     }
 }
